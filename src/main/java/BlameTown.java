@@ -883,10 +883,6 @@ public final class BlameTown {
             return freshBelief(m, x, place) - facts.jury;
         }
 
-        boolean fitsAt(int m, int x, int place) {
-            return now.wornOf(m) <= wornLimit(m, x, place);
-        }
-
         int freeOf(int x) {
             return Math.max(0, at(facts.sharers, x) - Integer.bitCount(now.blamedFor(x)));
         }
@@ -919,7 +915,8 @@ public final class BlameTown {
                     return false;
                 }
             }
-            return fitsAt(m, x, now.placeOf(m, at(facts.hours, x)));
+            int place = now.placeOf(m, at(facts.hours, x));
+            return now.wornOf(m) <= wornLimit(m, x, place);
         }
 
         /** MAY: a SET of MEN. */
@@ -948,7 +945,7 @@ public final class BlameTown {
             return best;
         }
 
-        /** The PLACE next to the one where he is at which he FITS; NONE. */
+        /** The PLACE at which he FITS that is next to the one where he is; NONE. */
         int nearestFit(int m, int x, int place) {
             if (place == NONE) {
                 return NONE;
@@ -957,7 +954,7 @@ public final class BlameTown {
             int least = PLACES;
             for (int other = 0; other < PLACES; other++) {
                 int steps = Math.abs(other - place);
-                if (steps < least && fitsAt(m, x, other)) {
+                if (steps < least && now.wornOf(m) <= wornLimit(m, x, other)) {
                     best = other;
                     least = steps;
                 }
