@@ -19,6 +19,8 @@ public final class BlameTown {
     private static final int MOST_QUIET_DAYS = 60;
     private static final int HUNDRED = 100;
     private static final int BILLION = 1000000000;
+    /** 2 to the 31, less 1. */
+    private static final int GREATEST = 2147483647;
     /** J of a MISHAP that comes from none, as the text tells it. */
     private static final int FROM_NONE = 9;
     /** Sets of MEN for one MISHAP: nobody, or one of the 21 pairs. */
@@ -444,7 +446,7 @@ public final class BlameTown {
     }
 
     private int draw(int n) {
-        draws = (draws * 1103515245 + 12345) & Integer.MAX_VALUE;
+        draws = (draws * 1103515245 + 12345) & GREATEST;
         return n > 0 ? draws / 65536 % n : 0;
     }
 
@@ -934,7 +936,7 @@ public final class BlameTown {
             int takers = takers(x);
             int free = freeOf(x);
             int best = NONE;
-            int least = Integer.MAX_VALUE;
+            int least = GREATEST;
             for (int set = 1; set < 1 << MOST_MEN; set++) {
                 boolean isFilling = (set & ~takers) == 0 && Integer.bitCount(set) == free;
                 if (isFilling && facts.ratesOf(set) < least) {
@@ -1012,7 +1014,7 @@ public final class BlameTown {
             for (int x = facts.mishaps - 1; x >= 0; x--) {
                 lookAt(x);
             }
-            least = Integer.MAX_VALUE;
+            least = GREATEST;
             search(0, 0);
         }
 
@@ -1073,29 +1075,28 @@ public final class BlameTown {
 
         /** The depth is the MISHAP's number: MOST_MISHAPS at most. */
         private void search(int x, int cost) {
-            if (x > MOST_MISHAPS || cost + at(restCosts, x) >= least) {
-                return;
-            }
-            if (x >= facts.mishaps) {
+            if (x >= facts.mishaps || x >= MOST_MISHAPS) {
                 least = cost;
                 copyRow(picked, found);
                 return;
             }
+            int rest = at(restCosts, x + 1);
             int count = at(setCounts, x);
             for (int k = 0; k < count; k++) {
-                pick(x, k, cost);
+                int costThen = cost + at(prices, x * MOST_SETS + k);
+                if (costThen + rest < least) {
+                    pick(x, at(sets, x * MOST_SETS + k), costThen);
+                }
             }
         }
 
-        private void pick(int x, int k, int cost) {
-            int set = at(sets, x * MOST_SETS + k);
-            if (!allTake(set, x)) {
-                return;
+        private void pick(int x, int set, int costThen) {
+            if (allTake(set, x)) {
+                give(set, 1 << x);
+                put(picked, x, set);
+                search(x + 1, costThen);
+                give(set, 1 << x);
             }
-            give(set, 1 << x);
-            put(picked, x, set);
-            search(x + 1, cost + at(prices, x * MOST_SETS + k));
-            give(set, 1 << x);
         }
 
         /** Given to those who had it not, taken back from those who had it. */

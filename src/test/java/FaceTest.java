@@ -116,7 +116,7 @@ public final class FaceTest {
         }
         Due.that("signs 1 to 127 alone", source.chars().allMatch(c -> c > 0 && c < 128));
         Matcher library = Pattern.compile("\\b(Math|Integer)\\.(\\w+)").matcher(code);
-        Set<String> known = Set.of("Math.abs", "Math.max", "Math.min", "Math.floorMod", "Integer.bitCount", "Integer.MAX_VALUE");
+        Set<String> known = Set.of("Math.abs", "Math.max", "Math.min", "Math.floorMod", "Integer.bitCount");
         while (library.find()) {
             Due.that(library.group() + " is listed", known.contains(library.group()));
         }

@@ -691,6 +691,10 @@ public final class PromisesTest {
         Due.is("17 nobody is first", even.shared(0), 0);
         BlameTown pairs = of("a0 50;m0 0 9aaaaaa;m0 0 2aaaaaa;m0 0 2aaaaaa;m0 0 2aaaaaa;x0 0 0 0 2 9;");
         Due.is("17 1 and 2", pairs.shared(0), 6);
+        BlameTown last = of("a0 500;" + times("m0 0 90aaaaaa;", 5) + times("m0 0 2aaaaaa;", 2) + times("x0 0 0 0 2 9;", 2));
+        Due.is("17 the last of 21 pairs", last.shared(0), 96);
+        Due.is("17 for both", last.shared(1), 96);
+        Due.is("17 how much", last.shared(NONE), 8);
     }
 
     // 18
