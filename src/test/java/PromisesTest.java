@@ -1,12 +1,5 @@
 /** Each promise of the document, by hand: ordinary inputs, the edges that it names, wrong inputs. */
-public final class PromisesTest {
-    private static final int NONE = -1;
-    private static final int UNKNOWN = -1000000001;
-    private static final int OUTSIDE = -1000000002;
-    private static final int NOT = -1000000003;
-    private static final int FULL = -1000000004;
-    private static final int[] WRONG = {Integer.MIN_VALUE, -2, -1, 7, 31, 32, 33, Integer.MAX_VALUE};
-
+public final class PromisesTest extends Towns {
     /** Three men; x0 and x2 are at one PLACE and HOUR, x1 is FAR from both; x2 comes from x0. */
     private static final String THREE = "a1 100;m1 0 5aaaaaa;m1 0 5bbbbbb;m1 1 9aabbcc;"
             + "x0 1 1 0 1 9;x2 1 1 1 1 9;x0 1 1 1 2 0;";
@@ -54,23 +47,6 @@ public final class PromisesTest {
         Due.end();
     }
 
-    private static BlameTown of(String text) {
-        BlameTown t = new BlameTown();
-        tell(t, text);
-        Due.that(text + " stands", t.town() >= 0);
-        return t;
-    }
-
-    private static void tell(BlameTown t, String text) {
-        for (int i = 0; i < text.length(); i++) {
-            t.feed(text.charAt(i));
-        }
-    }
-
-    private static String times(String text, int n) {
-        return text.repeat(n);
-    }
-
     // 1
     private static void newObject() {
         BlameTown t = new BlameTown();
@@ -114,41 +90,20 @@ public final class PromisesTest {
         Due.is("2 anew", t.feed('a'), 1);
     }
 
-    private static void stands(String text, int men, int mishaps, boolean isTown) {
-        BlameTown t = new BlameTown();
-        tell(t, text);
-        Due.is("3 " + text, t.town(), men);
-        Due.is("4 " + text, t.fault(), NONE);
-        Due.is("3 MISHAPS of " + text, t.told(4), mishaps);
-        Due.is("3 a TOWN is " + text, t.told(0), isTown ? 1 : 0);
-        Due.is("3 used up: " + text, t.told(5), 0);
-    }
-
-    /** The sign ^ stands ahead of the letter that has the fault. */
-    private static void faulty(String marked, int kind) {
-        String text = marked.replace("^", "");
-        BlameTown t = new BlameTown();
-        tell(t, text);
-        Due.is("3 " + marked, t.town(), -10 - kind);
-        Due.is("4 " + marked, t.fault(), marked.indexOf('^'));
-        Due.is("3 no TOWN: " + marked, t.told(0), 0);
-        Due.is("3 used up: " + marked, t.told(5), 0);
-    }
-
     // 3
     private static void townsThatStand() {
-        stands("", 0, 0, false);
-        stands("   ", 0, 0, false);
-        stands("a0 1;", 0, 0, true);
-        stands("a6 500;", 0, 0, true);
-        stands("a006 001;", 0, 0, true);
-        stands("  a  6   500  ;  ", 0, 0, true);
-        stands("a0 1;m0 0 1------;", 1, 0, true);
-        stands("a0 1;m 15 63 99 abcdef ;", 1, 0, true);
-        stands("a0 1;" + times("m0 0 1------;", 7), 7, 0, true);
-        stands("a0 1;x5 5 15 5 2 9;", 0, 1, true);
-        stands("a0 1;x0 0 0 0 1 009;m0 0 1------;x0 0 0 0 1 0;", 1, 2, true);
-        stands("a0 1;x0 0 0 0 1 9;x0 0 0 0 1 0;x0 0 0 0 1 1;x0 0 0 0 1 2 ; ", 0, 4, true);
+        stands("", 0, 0);
+        stands("   ", 0, 0);
+        stands("a0 1;", 0, 0);
+        stands("a6 500;", 0, 0);
+        stands("a006 001;", 0, 0);
+        stands("  a  6   500  ;  ", 0, 0);
+        stands("a0 1;m0 0 1------;", 1, 0);
+        stands("a0 1;m 15 63 99 abcdef ;", 1, 0);
+        stands("a0 1;" + times("m0 0 1------;", 7), 7, 0);
+        stands("a0 1;x5 5 15 5 2 9;", 0, 1);
+        stands("a0 1;x0 0 0 0 1 009;m0 0 1------;x0 0 0 0 1 0;", 1, 2);
+        stands("a0 1;x0 0 0 0 1 9;x0 0 0 0 1 0;x0 0 0 0 1 1;x0 0 0 0 1 2 ; ", 0, 4);
     }
 
     // 3, 4
@@ -211,13 +166,6 @@ public final class PromisesTest {
         faulty("a0 1;x0 0 0 0 1^;", 1);
         faulty("a0 1;" + times("x0 0 0 0 1 9;", 4) + "^x0", 3);
         faulty("a0 1;m0 0 1" + (char) 233 + "-----;", "a0 1;m0 0 1".length(), 1);
-    }
-
-    private static void faulty(String text, int at, int kind) {
-        BlameTown t = new BlameTown();
-        tell(t, text);
-        Due.is("3 " + text, t.town(), -10 - kind);
-        Due.is("4 " + text, t.fault(), at);
     }
 
     // 3
