@@ -7,22 +7,28 @@ public final class DeedEdgesTest extends Towns {
     private static final long WRAP = 1L << 31;
 
     public static void main(String[] args) {
+        manWhat();
         manBounds();
+        mishapWhat();
         mishapBounds();
         numbersFromNought();
         near();
         nearAtItsHour();
         can();
         hates();
+        there();
         believed();
         wornMost();
+        wornAtFirst();
         fits();
         fitsToNought();
         far();
+        blameBounds();
         blamedPlace();
         blamedOnce();
         blamedWorn();
         cleared();
+        clearedWorn();
         walkBounds();
         walkTheSame();
         walkBlamed();
@@ -46,6 +52,27 @@ public final class DeedEdgesTest extends Towns {
         Due.end();
     }
 
+    private static void manWhat() {
+        Due.about("6", "Of a MAN: what = 0 POWERS, 1 HATES, 2 RATE, 3 WORN, 4 MISHAPS for which he is BLAMED (a SET of MISHAPS),");
+        BlameTown t = of("a0 1;m1 2 3aaaaaa;m2 4 6aaaaaa;x0 0 0 0 2 9;x0 0 0 0 1 9;x0 0 0 0 2 9;x0 0 0 0 1 9;");
+        t.blame(0, 0);
+        t.blame(0, 2);
+        t.blame(1, 2);
+        t.blame(1, 3);
+        t.blame(0, 1);
+        int[][] due = {{1, 2, 3, 3, 1 + 2 + 4}, {2, 4, 6, 2, 4 + 8}};
+        for (int m = 0; m < 2; m++) {
+            for (int what = 0; what <= 4; what++) {
+                Due.is("MAN " + m + ", " + what, t.man(m, what), due[m][what]);
+            }
+        }
+        t.clear(0, 0);
+        Due.is("WORN", t.man(0, 3), 2);
+        Due.is("two of them", t.man(0, 4), 2 + 4);
+        t.sunset();
+        Due.is("nothing", t.man(0, 4), 0);
+    }
+
     private static void manBounds() {
         Due.about("6", "5 to 10 the PLACE at HOURS 0 to 5 (NONE: nowhere). UNKNOWN, OUTSIDE.");
         BlameTown t = of(A + times(M, 6) + "m15 63 99abcdef;");
@@ -65,6 +92,17 @@ public final class DeedEdgesTest extends Towns {
         BlameTown one = of(A + M);
         Due.is("one", one.man(0, 2), 1);
         Due.is("no second", one.man(1, 2), UNKNOWN);
+    }
+
+    private static void mishapWhat() {
+        Due.about("7", "Of a MISHAP: what = 0 PLACE, 1 HOUR, 2 POWERS, 3 VICTIM, 4 Z, 5 J (NONE),");
+        BlameTown t = of("a0 1;x1 2 3 4 1 9;x5 4 8 2 2 0;x0 0 0 0 1 1;x3 1 15 5 2 9;");
+        int[][] due = {{1, 2, 3, 4, 1, NONE}, {5, 4, 8, 2, 2, 0}, {0, 0, 0, 0, 1, 1}, {3, 1, 15, 5, 2, NONE}};
+        for (int x = 0; x < 4; x++) {
+            for (int what = 0; what <= 5; what++) {
+                Due.is("MISHAP " + x + ", " + what, t.mishap(x, what), due[x][what]);
+            }
+        }
     }
 
     private static void mishapBounds() {
@@ -159,6 +197,20 @@ public final class DeedEdgesTest extends Towns {
         }
     }
 
+    private static void there() {
+        Due.about("8", "2 more if he is THERE,");
+        BlameTown t = of("a0 1;m0 1 1bbbbbb;x0 0 0 0 1 9;x1 0 0 0 1 9;x2 0 0 1 1 9;x1 1 0 1 1 9;");
+        Due.is("beside, below", t.belief(0, 0), 13);
+        Due.is("THERE", t.belief(0, 1), 15);
+        Due.is("beside, above", t.belief(0, 2), 11);
+        Due.is("THERE at another HOUR", t.belief(0, 3), 13);
+        t.walk(0, 0, 2);
+        Due.is("he WALKS off: not NEAR", t.belief(0, 0), 0);
+        Due.is("he WALKS off: beside", t.belief(0, 1), 13);
+        Due.is("he WALKS THERE", t.belief(0, 2), 13);
+        Due.is("not at another HOUR", t.belief(0, 3), 13);
+    }
+
     private static void believed() {
         Due.about("8", "BELIEF, and 10 (so that it is above 0); 0: he is not NEAR, or CANNOT. UNKNOWN.");
         // THERE and hating he is believed till he is WORN by 6; beside and not hating that leaves 1 - 6 + 10
@@ -182,16 +234,33 @@ public final class DeedEdgesTest extends Towns {
 
     private static void wornMost() {
         Due.about("8, 9, 12", "less his WORN (0 at first, 9 at most).");
+        // 5 is the most that is believed, 0 the least from which on a jury does: the sixth blame is the last
         BlameTown t = of("a0 1;m0 1 1aaaaaa;" + times(X, 4));
-        Due.is("0 at first", t.man(0, 3), 0);
-        for (int day = 0; day < 3; day++) {
-            for (int x = 0; x < 4; x++) {
-                t.blame(0, x);
-            }
-            t.sunset();
+        for (int x = 0; x < 4; x++) {
+            Due.is("blame " + x, t.blame(0, x), 1);
         }
-        // BELIEF 5 at first: at 6 he FITS no more, so that 9 is not come to
-        Due.is("nobody is BLAMED past belief", t.man(0, 3), 5);
+        t.sunset();
+        Due.is("the fifth", t.blame(0, 0), 1);
+        Due.is("BELIEF 0", t.belief(0, 1), 10);
+        Due.is("the sixth", t.blame(0, 1), 1);
+        Due.is("WORN 6", t.man(0, 3), 6);
+        Due.is("BELIEF below 0", t.belief(0, 2), 9);
+        Due.is("no seventh", t.blame(0, 2), NOT);
+        t.sunset();
+        Due.is("WORN stays", t.man(0, 3), 6);
+        Due.is("nor the next DAY", t.blame(0, 0), NOT);
+        t.sunset();
+        Due.is("WORN 5", t.man(0, 3), 5);
+        Due.is("the DAY after", t.blame(0, 0), 1);
+    }
+
+    private static void wornAtFirst() {
+        Due.about("3, 6, 8", "WORN (0 at first,");
+        BlameTown t = of("a0 1;" + times("m0 1 1aaaaaa;", 7) + X);
+        for (int m = 0; m < 7; m++) {
+            Due.is("MAN " + m, t.man(m, 3), 0);
+            Due.is("BELIEF of " + m, t.belief(m, 0), 15);
+        }
     }
 
     private static void fits() {
@@ -225,23 +294,44 @@ public final class DeedEdgesTest extends Towns {
 
     private static void far() {
         Due.about("9", "TWO MISHAPS are FAR, if their PLACES are more apart than their HOURS are.");
-        for (int hours = 0; hours < 6; hours++) {
-            for (int places = 0; places < 6 && (hours > 0 || places <= 2); places++) {
-                int there = hours == 0 ? places / 2 : places;
-                String row = (hours == 0 ? "" : "a") + times("" + (char) ('a' + there), hours == 0 ? 6 : 5);
-                String early = "x0 0 0 0 1 9;";
-                String late = "x" + places + " " + hours + " 0 0 1 9;";
-                boolean isFar = places > hours;
-                for (String both : new String[] {early + late, late + early}) {
-                    BlameTown t = of("a0 1;m0 0 4" + row + ";" + both);
-                    Due.is("the first of " + both, t.blame(0, 0), 4);
-                    Due.is("the other of " + both, t.blame(0, 1), isFar ? NOT : 4);
-                    Due.is("MAY", t.may(1), 0);
-                    t.clear(0, 0);
-                    Due.is("none is FAR any more", t.may(1) + (t.mishap(1, 6) << 1), isFar ? 1 : 2);
+        for (int one = 0; one < 36; one++) {
+            for (int other = 0; other < 36; other++) {
+                int places = Math.abs(one / 6 - other / 6);
+                int hours = Math.abs(one % 6 - other % 6);
+                // at one HOUR he is NEAR what is two PLACES apart at the most
+                if (hours > 0 || places <= 2) {
+                    bothBlamed(one / 6, one % 6, other / 6, other % 6, places > hours);
                 }
             }
         }
+    }
+
+    private static void bothBlamed(int place, int hour, int otherPlace, int otherHour, boolean isFar) {
+        StringBuilder row = new StringBuilder("------");
+        row.setCharAt(hour, (char) ('a' + place));
+        row.setCharAt(otherHour, (char) ('a' + (hour == otherHour ? (place + otherPlace) / 2 : otherPlace)));
+        String both = "x" + place + " " + hour + " 0 0 1 9;x" + otherPlace + " " + otherHour + " 0 0 1 9;";
+        BlameTown t = of("a0 1;m0 0 4" + row + ";" + both);
+        Due.is("the first of " + both, t.blame(0, 0), 4);
+        Due.is("MAY " + both, t.may(1), isFar ? 0 : 1);
+        Due.is("the other of " + both, t.blame(0, 1), isFar ? NOT : 4);
+        t.clear(0, 0);
+        Due.is("none is FAR any more " + both, t.may(1) + (t.mishap(1, 6) << 1), isFar ? 1 : 2);
+    }
+
+    private static void blameBounds() {
+        Due.about("9", "BLAMED: RATE. UNKNOWN, NOT: he cannot be.");
+        BlameTown t = of("a0 1;" + times(M, 6) + "m0 0 99aaaaaa;" + times(X, 4));
+        Due.is("the last MAN, the last MISHAP", t.blame(6, 3), 99);
+        Due.is("the last MAN, the first MISHAP", t.blame(6, 0), 99);
+        Due.is("he is nowhere", t.blame(0, 1), NOT);
+        Due.is("he is already", t.blame(6, 3), NOT);
+        Due.is("no MAN", t.blame(7, 1), UNKNOWN);
+        Due.is("no MAN below", t.blame(-1, 1), UNKNOWN);
+        Due.is("no MISHAP", t.blame(6, 4), UNKNOWN);
+        Due.is("no MISHAP below", t.blame(6, -1), UNKNOWN);
+        Due.is("32 MEN on", t.blame(38, 1), UNKNOWN);
+        Due.is("SPENT", t.told(7), 198);
     }
 
     private static void blamedPlace() {
@@ -308,6 +398,29 @@ public final class DeedEdgesTest extends Towns {
         Due.is("no MISHAP", t.clear(0, 2), UNKNOWN);
         Due.is("no MISHAP below", t.clear(0, -1), UNKNOWN);
         Due.is("32 MEN on", t.clear(32, 0), UNKNOWN);
+    }
+
+    private static void clearedWorn() {
+        Due.about("10", "CLEARED: he gives it back; WORN 1 less (0 at least); SPENT stays.");
+        BlameTown t = of("a0 1;m0 1 5aaaaaa;x0 0 0 0 1 9;x0 0 0 0 1 9;");
+        Due.is("a place is taken", t.blame(0, 0) + t.told(8), 5 + 1);
+        Due.is("WORN 0, and no less", t.clear(0, 0), 0);
+        Due.is("the place is free", t.told(8), 2);
+        Due.is("nobody is BLAMED", t.mishap(0, 6) + t.man(0, 4), 0);
+        Due.is("SPENT", t.told(7), 5);
+        for (int k = 2; k <= 10; k++) {
+            t.blame(0, 0);
+            Due.is("WORN 0 again", t.clear(0, 0), 0);
+            Due.is("SPENT anew", t.told(7), 5 * k);
+        }
+        t.blame(0, 0);
+        t.sunset();
+        t.blame(0, 0);
+        t.blame(0, 1);
+        Due.is("WORN 3 to 2", t.clear(0, 0), 2);
+        Due.is("WORN 2 to 1", t.clear(0, 1), 1);
+        t.sunset();
+        Due.is("a CLEARED one is not BLAMED: 1 less", t.man(0, 3), 0);
     }
 
     private static void walkBounds() {

@@ -31,7 +31,7 @@ public final class PaperEdgesTest extends Towns {
     }
 
     private static void seeBounds() {
-        Due.about("24", "SEEN: how much. UNKNOWN, OUTSIDE,");
+        Due.about("24", "SEEN: how much. UNKNOWN, OUTSIDE, FULL (6).");
         BlameTown t = of(A + M + M);
         Due.is("no MAN", t.see(2, 0, 0), UNKNOWN);
         Due.is("no MAN below", t.see(-1, 0, 0), UNKNOWN);
@@ -42,6 +42,10 @@ public final class PaperEdgesTest extends Towns {
         Due.is("nothing SEEN so far", t.told(9), 0);
         Due.is("the first MAN, HOUR, PLACE", t.see(0, 0, 0), 1);
         Due.is("the last MAN, HOUR, PLACE", t.see(1, 5, 5), 2);
+        for (int k = 3; k <= 6; k++) {
+            Due.is("the same again", t.see(1, 5, 5), k);
+        }
+        Due.is("a seventh", t.see(1, 5, 5), FULL);
         Due.is("no TOWN", new BlameTown().see(0, 0, 0), UNKNOWN);
     }
 

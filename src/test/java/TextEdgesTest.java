@@ -518,28 +518,38 @@ public final class TextEdgesTest extends Towns {
         faulty(A + "^a", 3);
     }
 
+    private static BlameTown lived() {
+        BlameTown t = Twins.plain();
+        t.seed(9);
+        t.keep(1);
+        t.blame(0, 0);
+        t.walk(1, 5, 0);
+        t.see(1, 0, 0);
+        t.write(1, 1);
+        t.seed(10);
+        return t;
+    }
+
     private static void faultyTown() {
         Due.about("3, 4", "-10 less the number of its FAULT (all else is as it was).");
-        for (String text : new String[] {"b", "a3 50;m0 0 9ffffff;x5 5 5 5 2 9;q", "a9", A + A}) {
-            BlameTown faulty = Twins.plain();
-            BlameTown other = Twins.plain();
-            for (BlameTown each : new BlameTown[] {faulty, other}) {
-                each.seed(9);
-                each.keep(1);
-                each.blame(0, 0);
-                each.walk(1, 5, 0);
-                each.see(1, 0, 0);
-                each.write(1, 1);
-                each.seed(10);
-            }
+        for (String text : new String[] {"b", "a3 50;m0 0 9ffffff;x5 5 5 5 2 9;q", "a9", A + A, A + M + "x", "m"}) {
+            BlameTown faulty = lived();
             tell(faulty, text);
             Due.that(text + " is faulty", faulty.town() <= -11);
-            tell(faulty, "b");
-            faulty.town();
-            tell(other, "b");
-            other.town();
-            Twins.same("after " + text, faulty, other);
+            Twins.sameButFault("after " + text, faulty, lived());
         }
+        BlameTown t = lived();
+        tell(t, "b");
+        Due.is("faulty", t.town(), -11);
+        int[] due = {1, 1, 100, 2, 2, 0, 0, 5, 2, 1, 1, 2};
+        for (int what = 0; what < due.length; what++) {
+            Due.is("told " + what, t.told(what), due[what]);
+        }
+        Due.is("THE SEED", t.seed(10), 10);
+        Due.is("BLAMED", t.mishap(0, 6), 1);
+        Due.is("the WALK", t.man(1, 10), 0);
+        Due.is("UNDONE", t.undo(1), 0);
+        Due.is("the IMAGE", t.goBack(1), 1);
     }
 
     private static void faultLetter() {

@@ -15,6 +15,7 @@ public final class TriedEdgesTest extends Towns {
         sharedNobody();
         sharedWears();
         sharedOnTop();
+        sharedWornMost();
         sharedFar();
         sharedLeast();
         sharedNobodyFirst();
@@ -22,7 +23,9 @@ public final class TriedEdgesTest extends Towns {
         sharedWhoever();
         cheapestLeast();
         cheapestNone();
+        cheapestBounds();
         culprits();
+        culpritsBounds();
         idle();
         nearerHowMany();
         nearerNone();
@@ -33,7 +36,9 @@ public final class TriedEdgesTest extends Towns {
         whole();
         chainBounds();
         quietBounds();
+        quietOutside();
         quietCut();
+        cutTowardsNought();
         quietEach();
         quietWraps();
         Due.end();
@@ -140,6 +145,10 @@ public final class TriedEdgesTest extends Towns {
         Due.is("both", pair.shared(0), 3);
         BlameTown last = of("a0 500;" + times(M, 5) + times("m0 0 1aaaaaa;", 2) + "x0 0 0 0 2 9;");
         Due.is("the last two", last.shared(0), 96);
+        BlameTown pairs = of("a0 500;" + times("m0 0 90aaaaaa;", 5) + times("m0 0 2aaaaaa;", 2) + times("x0 0 0 0 2 9;", 2));
+        Due.is("the last of 21 pairs", pairs.shared(0), 96);
+        Due.is("and again", pairs.shared(1), 96);
+        Due.is("both for two", pairs.shared(NONE), 8);
     }
 
     private static void sharedWears() {
@@ -182,6 +191,24 @@ public final class TriedEdgesTest extends Towns {
         t.clear(0, 2);
         t.sunset();
         Due.is("WORN 1", t.shared(NONE), 56);
+    }
+
+    private static void sharedWornMost() {
+        Due.about("17", "0 at least; 9 at most), none has two");
+        BlameTown t = of("a0 50;m0 1 3aaaaaa;" + times(X, 4));
+        for (int day = 0; day < 2; day++) {
+            for (int x = 0; x < 4; x++) {
+                t.blame(0, x);
+            }
+            Due.is("WORN less what he is BLAMED for, DAY " + day, t.shared(NONE), day == 0 ? 12 : 56 + 50);
+            t.sunset();
+        }
+        // WORN 6, the most that comes; each DAY that he is not BLAMED he FITS for one more
+        int[] due = {200, 153, 106, 59, 12, 12, 12, 12};
+        for (int day = 0; day < due.length; day++) {
+            Due.is("DAY " + day, t.shared(NONE), due[day]);
+            t.sunset();
+        }
     }
 
     private static void sharedFar() {
@@ -300,6 +327,28 @@ public final class TriedEdgesTest extends Towns {
         Due.is("above", t.cheapest(4), UNKNOWN);
         Due.is("below", t.cheapest(-1), UNKNOWN);
         Due.is("the last", t.cheapest(3), NONE);
+    }
+
+    private static void cheapestBounds() {
+        Due.about("18", "CHEAPEST; NONE. UNKNOWN.");
+        BlameTown t = of("a0 1;" + times(M, 6) + "m0 0 1aaaaaa;" + times(X, 4));
+        Due.is("the first", t.cheapest(0), 64);
+        Due.is("the last", t.cheapest(3), 64);
+        for (int x : new int[] {-1, 4, 31, 32, Integer.MIN_VALUE, Integer.MAX_VALUE}) {
+            Due.is("MISHAP " + x, t.cheapest(x), UNKNOWN);
+        }
+        Due.is("no TOWN", new BlameTown().cheapest(0), UNKNOWN);
+    }
+
+    private static void culpritsBounds() {
+        Due.about("19", "`int culprits(int x)`: CULPRITS. UNKNOWN.");
+        BlameTown t = of("a0 1;" + times(M, 6) + "m0 0 1aaaaaa;" + times(X, 4));
+        Due.is("the first", t.culprits(0), 64);
+        Due.is("the last", t.culprits(3), 64);
+        for (int x : new int[] {-1, 4, 31, 32, Integer.MIN_VALUE, Integer.MAX_VALUE}) {
+            Due.is("MISHAP " + x, t.culprits(x), UNKNOWN);
+        }
+        Due.is("no TOWN", new BlameTown().culprits(0), UNKNOWN);
     }
 
     private static void culprits() {
@@ -473,6 +522,39 @@ public final class TriedEdgesTest extends Towns {
         Due.is("q above, no DAY", t.quiet(0, 101), OUTSIDE);
         Due.is("far below", t.quiet(Integer.MIN_VALUE, 1), OUTSIDE);
         Due.is("far above", t.quiet(1, Integer.MAX_VALUE), OUTSIDE);
+    }
+
+    private static void quietOutside() {
+        Due.about("23", "`int quiet(int n, int q)`: QUIET. OUTSIDE.");
+        BlameTown t = of(A + X);
+        Due.is("the least of both", t.quiet(0, 0), 1000000000);
+        Due.is("the most of both", t.quiet(60, 100), 0);
+        Due.is("the most DAYS by one", t.quiet(60, 1), 547156620);
+        Due.is("one DAY by the most but one", t.quiet(1, 99), 10000000);
+        for (int n : new int[] {-1, 61, 64, Integer.MIN_VALUE, Integer.MAX_VALUE}) {
+            Due.is(n + " DAYS", t.quiet(n, 0), OUTSIDE);
+        }
+        for (int q : new int[] {-1, 101, 128, Integer.MIN_VALUE, Integer.MAX_VALUE}) {
+            Due.is("by " + q, t.quiet(60, q), OUTSIDE);
+            Due.is("no DAY by " + q, t.quiet(0, q), OUTSIDE);
+        }
+    }
+
+    private static void cutTowardsNought() {
+        Due.about("13, 23", "All numbers are whole; / cuts towards 0.");
+        BlameTown t = of("a0 1;m0 0 1aaaaaa;m0 0 1aaaaaa;m0 0 1aaaaaa;" + X);
+        Due.is("10 by tenths", t.quiet(9, 90), 1);
+        Due.is("1 by tenths", t.quiet(10, 90), 0);
+        Due.is("13 halves of a BILLION, 122070.3 cut to 122070", t.quiet(13, 50), 122070);
+        // SEED / 65536 is not whole for any of these
+        for (int seed : new int[] {0, 1, 5, 40, 1000}) {
+            long drawn = (seed * 1103515245L + 12345L) % (1L << 31);
+            long whole = (drawn - drawn % 65536) / 65536;
+            t.seed(seed);
+            t.drift(1);
+            Due.is("drawn by " + seed, t.man((int) (whole % 3), 3), 1);
+            t.undo(1);
+        }
     }
 
     private static void quietCut() {

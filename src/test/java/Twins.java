@@ -60,7 +60,13 @@ final class Twins {
     }
 
     static void same(String what, BlameTown one, BlameTown other) {
-        Due.that(what, one.fault() == other.fault() && asked(one).equals(asked(other)));
+        Due.that(what, one.fault() == other.fault());
+        sameButFault(what, one, other);
+    }
+
+    /** The letter of the latest FAULT may be another one. */
+    static void sameButFault(String what, BlameTown one, BlameTown other) {
+        Due.that(what, asked(one).equals(asked(other)));
     }
 
     /** Some 220 calls with two MEN and two MISHAPS. */
