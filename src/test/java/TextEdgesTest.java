@@ -1,3 +1,5 @@
+import java.util.ArrayList;
+import java.util.List;
 import java.util.function.ToIntFunction;
 
 /** The edges of section 1 of the document's terms, and of promises 1 to 5: the text, and what is told by it. */
@@ -39,6 +41,7 @@ public final class TextEdgesTest extends Towns {
         emptyText();
         textIsUsedUp();
         townBegins();
+        smallerTown();
         papersOfTown();
         imagesOfTown();
         howManyMen();
@@ -485,6 +488,50 @@ public final class TextEdgesTest extends Towns {
             Due.is("no WALK " + m, t.man(m, 5), m);
         }
         Due.is("all IDLE", t.idle(), 3);
+    }
+
+    /** Of a fuller TOWN told earlier, or of a fuller text with a FAULT, nothing is left in a smaller one. */
+    private static void smallerTown() {
+        Due.about("3", "becomes THE TOWN");
+        String[] fuller = {"a0 500;" + times("m15 63 1cccccc;", 7) + times("x2 0 0 0 2 9;", 4),
+            "a0 500;" + times("m15 63 1cccccc;", 7) + times("x2 0 0 0 2 9;", 4) + "x"};
+        for (int men = 0; men <= 2; men++) {
+            for (int mishaps = 0; mishaps <= 2; mishaps++) {
+                String smaller = "a1 7;" + times("m3 1 5cccccc;", men) + times("x2 1 1 0 1 9;", mishaps);
+                for (String text : fuller) {
+                    Due.that(smaller + " after " + text, drifted(after(text, smaller)).equals(drifted(of(smaller))));
+                    Twins.same(smaller + " after " + text, after(text, smaller), of(smaller));
+                }
+            }
+        }
+    }
+
+    private static BlameTown after(String text, String smaller) {
+        BlameTown t = new BlameTown();
+        tell(t, text);
+        if (t.town() >= 0) {
+            t.drift(1);
+            t.blame(0, 3);
+            t.keep(0);
+        }
+        t.seed(0);
+        tell(t, smaller);
+        t.town();
+        return t;
+    }
+
+    private static List<Integer> drifted(BlameTown t) {
+        List<Integer> all = new ArrayList<>();
+        for (int n = 1; n <= 3; n++) {
+            all.add(t.drift(n));
+            all.add(t.sunset());
+            for (int m = 0; m < 7; m++) {
+                all.add(t.man(m, 3));
+                all.add(t.man(m, 4));
+            }
+        }
+        all.addAll(Twins.asked(t));
+        return all;
     }
 
     private static void papersOfTown() {
