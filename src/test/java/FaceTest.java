@@ -25,8 +25,33 @@ public final class FaceTest {
         methods();
         members();
         insideClasses();
-        text(Files.readString(Path.of("src/main/java/BlameTown.java")));
+        String source = Files.readString(Path.of("src/main/java/BlameTown.java"));
+        text(source);
+        asTheDocumentHasIt(Files.readString(Path.of("..", "shared", "DOC.md")), source);
         Due.end();
+    }
+
+    /** The code block's lines stand in the class in their order, under the headings that the document names. */
+    private static void asTheDocumentHasIt(String document, String source) {
+        Matcher block = Pattern.compile("(?s)```java\n(.*?)```").matcher(document);
+        Due.that("the document has a code block", block.find());
+        int from = 0;
+        for (String line : block.group(1).split("\n")) {
+            String due = line.trim().replaceAll("\\);$", ") {");
+            int at = source.indexOf(due, from);
+            Due.that("in its place: " + due, at >= 0);
+            from = Math.max(from, at);
+        }
+        Matcher heading = Pattern.compile("Ahead of the calls `(\\w+)`.* the interface says: (---- .*)\\.").matcher(document);
+        int headings = 0;
+        while (heading.find()) {
+            headings++;
+            int said = source.indexOf("// " + heading.group(2) + "\n");
+            int call = source.indexOf("public int " + heading.group(1) + "(");
+            Due.that(heading.group(2) + " ahead of " + heading.group(1), said >= 0 && said < call
+                    && source.substring(said, call).trim().indexOf('\n') < 0);
+        }
+        Due.is("headings", headings, 5);
     }
 
     private static void constants() {
